@@ -1,0 +1,135 @@
+/** Promises 13 to 15: keep, goBack, undo. */
+public final class HistoryTest {
+    /** A state in which nearly everything is unlike that of a new object. */
+    private static BarredRungs busy() {
+        BarredRungs x = Check.with("bbcd,bbce,bbde,hhhh");
+        x.set(1, 5);
+        x.put(0, 0, 2);
+        x.put(1, 3, 0);
+        x.climb(0, 1);
+        x.turn();
+        return x;
+    }
+
+    private static void keepTells() {
+        BarredRungs x = busy();
+        int saved = x.count(12);
+        Check.same("keep()", x.keep(), 1);
+        Check.same("keep() is not undoable", x.count(12), saved);
+        Check.type(x, "t;t;t");
+        x.play();
+        Check.same("keep() in place of the one that was", x.keep(), 4);
+        x.turn();
+        Check.gives("goBack() to the later one", () -> x.goBack(), 4);
+        Check.same("turns", x.count(6), 4);
+    }
+
+    private static void goBackTells() {
+        BarredRungs x = busy();
+        x.keep();
+        int[] before = facts(x);
+        x.set(0, 6);
+        x.set(1, 1);
+        x.bar(3, 3);
+        x.leave(1);
+        Check.type(x, "aaaa");
+        x.add();
+        x.climb(0, 2);
+        x.turn();
+        Check.type(x, "abc");
+        Check.gives("goBack()", () -> x.goBack(), 1);
+        Check.same("all is as it was", java.util.Arrays.equals(before, facts(x)) ? 1 : 0, 1);
+        Check.same("the buffer stays", x.clearBuffer(), 3);
+        Check.same("the saved states stay, and one more", x.count(12), 6);
+        Check.gives("undo() of goBack()", () -> x.undo(), 5);
+        Check.same("as before goBack()", x.count(0), 5);
+        Check.same("the ladder, too", x.count(9), 1);
+        Check.gives("the snapshot stays", () -> x.goBack(), 1);
+        Check.gives("and stays", () -> x.goBack(), 1);
+
+        BarredRungs y = new BarredRungs();
+        Check.badState("goBack() without one", () -> y.goBack());
+        Check.same("nothing saved", y.count(12), 0);
+        y.keep();
+        Check.gives("goBack() to the beginning", () -> y.goBack(), 0);
+        Check.same("undoable", y.count(12), 1);
+        y.undo();
+        Check.gives("undo() does not take the snapshot", () -> y.goBack(), 0);
+    }
+
+    /** Everything that undo() restores. */
+    private static int[] facts(BarredRungs x) {
+        int[] all = new int[12 + 2 + 30 + 10 * x.count(0)];
+        int n = 0;
+        for (int what = 0; what < 12; what++) {
+            all[n++] = x.count(what);
+        }
+        all[n++] = x.setting(0);
+        all[n++] = x.setting(1);
+        for (int what = 0; what <= 9; what++) {
+            for (int c = 0; c < 3; c++) {
+                all[n++] = x.climber(c, what);
+            }
+            for (int w = 0; w < x.count(0); w++) {
+                all[n++] = x.word(w, what);
+            }
+        }
+        return all;
+    }
+
+    private static void undoTells() {
+        BarredRungs x = new BarredRungs();
+        Check.badState("undo() of nothing", () -> x.undo());
+        for (int i = 0; i < 9; i++) {
+            x.turn();
+            Check.same("saved states", x.count(12), Math.min(i + 1, 6));
+        }
+        Check.type(x, "ab");
+        for (int left = 5; left >= 0; left--) {
+            int due = left;
+            Check.gives("undo()", () -> x.undo(), due);
+            Check.same("turns, the oldest states being dropped", x.count(6), 3 + left);
+        }
+        Check.badState("undo() of nothing more", () -> x.undo());
+        Check.same("the buffer stays", x.clearBuffer(), 2);
+        Check.same("turns", x.count(6), 3);
+        x.turn();
+        Check.same("saved again", x.count(12), 1);
+    }
+
+    private static void undoRestores() {
+        BarredRungs x = busy();
+        int[] before = facts(x);
+        Runnable[] changes = {
+            () -> x.set(0, 1), () -> x.set(1, 1), () -> x.bar(3, 6), () -> x.climb(0, 2),
+            () -> x.turn(), () -> x.leave(1), () -> x.put(2, 0, 3), () -> addOne(x), () -> playOne(x),
+        };
+        for (int i = 0; i < changes.length; i++) {
+            changes[i].run();
+            x.undo();
+            Check.same("undo() of change " + i, java.util.Arrays.equals(before, facts(x)) ? 1 : 0, 1);
+        }
+        float mean = x.meanLadder();
+        x.climb(0, 2);
+        x.undo();
+        Check.sameDouble("the mean of ladders, too", x.meanLadder(), mean);
+    }
+
+    private static void addOne(BarredRungs x) {
+        Check.type(x, "bbcc,aaaa");
+        x.add();
+    }
+
+    private static void playOne(BarredRungs x) {
+        Check.type(x, "0bbde;t");
+        x.play();
+    }
+
+    public static void main(String[] args) {
+        keepTells();
+        goBackTells();
+        undoTells();
+        undoRestores();
+        Check.end("HistoryTest");
+    }
+}
