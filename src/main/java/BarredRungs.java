@@ -273,13 +273,17 @@ public final class BarredRungs {
         hash = mix(hash, now.settingOf(0));
         hash = mix(hash, now.settingOf(1));
         hash = mixWords(hash);
-        hash = mixClimbers(hash);
+        for (int c = 0; c < CLIMBERS; c++) {
+            for (int what = 0; what <= 9; what++) {
+                hash = mix(hash, climberNumber(c, what));
+            }
+        }
         for (int w = 0; w < now.words; w++) {
             hash = mix(hash, ways.byLinksAlone(now, 0, w));
         }
         hash = mix(hash, safest());
-        hash = mix(hash, bitsOfDouble(linkShare()));
-        hash = mix(hash, bitsOfFloat(meanLadder()));
+        hash = mix(hash, bitsOfShare(linkShare()));
+        hash = mix(hash, bitsOfMean(meanLadder()));
         hash = mix(hash, history.hasSnapshot ? 1 : 0);
         return mixText(hash);
     }
@@ -421,16 +425,6 @@ public final class BarredRungs {
         return hash;
     }
 
-    private long mixClimbers(long start) {
-        long hash = start;
-        for (int c = 0; c < CLIMBERS; c++) {
-            for (int what = 0; what <= 9; what++) {
-                hash = mix(hash, climberNumber(c, what));
-            }
-        }
-        return hash;
-    }
-
     private long mixText(long start) {
         long hash = mix(start, text.length);
         for (int i = 0; i < text.length; i++) {
@@ -440,42 +434,34 @@ public final class BarredRungs {
     }
 
     /**
-     * The bits of 0.0 or of a normal positive number, made by arithmetic, since
-     * the functions of Double are outside the library that the class may use.
+     * The bits of a share, 0.0 to 1.0, made by arithmetic, since the functions
+     * of Double are outside the library that the class may use.
      */
-    private static long bitsOfDouble(double value) {
-        if (!(value > 0.0)) {
+    private static long bitsOfShare(double share) {
+        if (!(share > 0.0)) {
             return 0;
         }
-        double rest = value;
+        double rest = share;
         long exponent = 1023;
         for (int i = 0; i < 1023 && rest < 1.0; i++) {
             rest *= 2.0;
             exponent--;
         }
-        for (int i = 0; i < 1023 && rest >= 2.0; i++) {
-            rest /= 2.0;
-            exponent++;
-        }
-        return (exponent << 52) + (long) ((rest - 1.0) * (1L << 52));
+        return (exponent << 52) + (long) ((rest - 1.0) * (double) (1L << 52));
     }
 
-    /** The same for a float. */
-    private static int bitsOfFloat(float value) {
-        if (!(value > 0.0f)) {
+    /** The bits of a mean: 0.0f, or 1.0f and more, as each ladder has a climb. */
+    private static int bitsOfMean(float mean) {
+        if (!(mean > 0.0f)) {
             return 0;
         }
-        float rest = value;
+        float rest = mean;
         int exponent = 127;
-        for (int i = 0; i < 127 && rest < 1.0f; i++) {
-            rest *= 2.0f;
-            exponent--;
-        }
         for (int i = 0; i < 127 && rest >= 2.0f; i++) {
             rest /= 2.0f;
             exponent++;
         }
-        return (exponent << 23) + (int) ((rest - 1.0f) * (1 << 23));
+        return (exponent << 23) + (int) ((rest - 1.0f) * (float) (1 << 23));
     }
 
     /** All that undo() restores: the words, the bar, the settings, the climbers and the counts. */
@@ -600,7 +586,11 @@ public final class BarredRungs {
             if (!hasWord(word) || at < 0 || at >= PLACES) {
                 return NONE;
             }
-            return (codes[word] >> (3 * (PLACES - 1 - at))) & 7;
+            return letterIn(codes[word], at);
+        }
+
+        static int letterIn(int code, int at) {
+            return (code >> (3 * (PLACES - 1 - at))) & 7;
         }
 
         int linksOf(int word) {
@@ -644,19 +634,25 @@ public final class BarredRungs {
         /** Whether a word is barred when so many more turns have passed. */
         boolean isBarredAfter(int word, int turnsFromNow) {
             int moves = place + turnsFromNow;
-            int barLetter = (letter + moves / PLACES * letterStep) % LETTERS;
-            return letterAt(word, moves % PLACES) == barLetter;
+            return letterAt(word, moves % PLACES) == barLetterAfter(moves);
         }
 
         /** The words of which that is so. */
         int barredAfter(int turnsFromNow) {
+            int moves = place + turnsFromNow;
+            int barLetter = barLetterAfter(moves);
             int barred = 0;
-            for (int w = 0; w < words; w++) {
-                if (isBarredAfter(w, turnsFromNow)) {
+            for (int w = 0; w < words && w < MOST_WORDS; w++) {
+                if (letterIn(codes[w], moves % PLACES) == barLetter) {
                     barred |= 1 << w;
                 }
             }
             return barred;
+        }
+
+        /** The letter of the bar after some moves, told from the place 0 and its letter of now on. */
+        int barLetterAfter(int moves) {
+            return (letter + moves / PLACES * letterStep) % LETTERS;
         }
 
         int turnsUntilBarred(int word) {

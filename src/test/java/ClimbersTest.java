@@ -31,6 +31,12 @@ public final class ClimbersTest {
         Check.gives("leave(1)", () -> x.leave(1), 1);
         Check.gives("put with a barred end", () -> x.put(1, 1, 2), -1);
         Check.same("nothing else was saved", x.count(12), 5);
+        BarredRungs y = Check.with("bbbb,bbbc");
+        y.bar(3, 1);
+        Check.badState("put on a word that is barred, but not in the next turn", () -> y.put(0, 0, 1));
+        y.set(0, 1);
+        y.bar(3, 0);
+        Check.gives("put on a word that is barred in the next turn, but not now", () -> y.put(0, 0, 1), 0);
     }
 
     private static void climbGoes() {

@@ -115,6 +115,36 @@ public final class HistoryTest {
         Check.sameDouble("the mean of ladders, too", x.meanLadder(), mean);
     }
 
+    /** Other words come in the places of those that undo() took away. */
+    private static void otherWords() {
+        BarredRungs x = Check.with("aaaa");
+        Check.type(x, "bbbb,bbbc");
+        x.add();
+        x.keep();
+        x.undo();
+        Check.type(x, "cccc,hhhh");
+        x.add();
+        Check.same("the later word", x.word(1, 0), 2);
+        x.goBack();
+        Check.same("the word of the snapshot", x.word(1, 0), 1);
+        Check.same("linked as then", x.count(1), 1);
+        x.undo();
+        Check.same("the later word again", x.word(1, 0), 2);
+        Check.same("linked as then", x.count(1), 0);
+    }
+
+    private static void undoOfFalls() {
+        BarredRungs x = busy();
+        x.bar(3, 7);
+        x.set(0, 7);
+        x.bar(3, 0);
+        int[] before = facts(x);
+        Check.same("climber 1 falls", x.turn(), 1);
+        Check.same("its falls", x.climber(1, 6), 1);
+        x.undo();
+        Check.same("undo() of a fall", java.util.Arrays.equals(before, facts(x)) ? 1 : 0, 1);
+    }
+
     private static void addOne(BarredRungs x) {
         Check.type(x, "bbcc,aaaa");
         x.add();
@@ -130,6 +160,8 @@ public final class HistoryTest {
         goBackTells();
         undoTells();
         undoRestores();
+        otherWords();
+        undoOfFalls();
         Check.end("HistoryTest");
     }
 }

@@ -90,7 +90,10 @@ public final class LooksTest {
         x.bar(1, 7);
         x.bar(0, 1);
         Check.same("three are barred", x.count(7), 3);
+        x.bar(3, 6);
+        Check.same("none is barred now", x.count(7), 0);
         x.bar(2, 7);
+        Check.same("one is barred", x.count(7), 1);
         x.turn();
         Check.same("one fell", x.count(10), 1);
         Check.same("none is on a word", x.count(8), 0);

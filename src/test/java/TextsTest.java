@@ -97,6 +97,9 @@ public final class TextsTest {
         Check.same("no turns", x.count(6), 0);
         Check.same("no climbs", x.count(11), 0);
         Check.same("it is at its beginning", x.climber(0, 0), 0);
+        played(x, "0bbce;t;0bbcd;t;0hhhh;t", 4);
+        Check.same("it is at the word 0 again", x.climber(0, 0), 0);
+        Check.gives("undo()", () -> x.undo(), 3);
         played(x, "t;0bbcc;t", 1);
         Check.same("a word that is not there: one turn", x.count(6), 1);
         played(x, "2bbcd", 0);
