@@ -27,7 +27,7 @@ public final class HistoryTest {
     private static void goBackTells() {
         BarredRungs x = busy();
         x.keep();
-        int[] before = facts(x);
+        long before = Check.state(x);
         x.set(0, 6);
         x.set(1, 1);
         x.bar(3, 3);
@@ -38,8 +38,8 @@ public final class HistoryTest {
         x.turn();
         Check.type(x, "abc");
         Check.gives("goBack()", () -> x.goBack(), 1);
-        Check.same("all is as it was", java.util.Arrays.equals(before, facts(x)) ? 1 : 0, 1);
         Check.same("the buffer stays", x.clearBuffer(), 3);
+        Check.isTrue("goBack(): not all is as it was", before == Check.state(x));
         Check.same("the saved states stay, and one more", x.count(12), 6);
         Check.gives("undo() of goBack()", () -> x.undo(), 5);
         Check.same("as before goBack()", x.count(0), 5);
@@ -55,26 +55,6 @@ public final class HistoryTest {
         Check.same("undoable", y.count(12), 1);
         y.undo();
         Check.gives("undo() does not take the snapshot", () -> y.goBack(), 0);
-    }
-
-    /** Everything that undo() restores. */
-    private static int[] facts(BarredRungs x) {
-        int[] all = new int[12 + 2 + 30 + 10 * x.count(0)];
-        int n = 0;
-        for (int what = 0; what < 12; what++) {
-            all[n++] = x.count(what);
-        }
-        all[n++] = x.setting(0);
-        all[n++] = x.setting(1);
-        for (int what = 0; what <= 9; what++) {
-            for (int c = 0; c < 3; c++) {
-                all[n++] = x.climber(c, what);
-            }
-            for (int w = 0; w < x.count(0); w++) {
-                all[n++] = x.word(w, what);
-            }
-        }
-        return all;
     }
 
     private static void undoTells() {
@@ -99,7 +79,7 @@ public final class HistoryTest {
 
     private static void undoRestores() {
         BarredRungs x = busy();
-        int[] before = facts(x);
+        long before = Check.state(x);
         Runnable[] changes = {
             () -> x.set(0, 1), () -> x.set(1, 1), () -> x.bar(3, 6), () -> x.climb(0, 2),
             () -> x.turn(), () -> x.leave(1), () -> x.put(2, 0, 3), () -> addOne(x), () -> playOne(x),
@@ -107,7 +87,7 @@ public final class HistoryTest {
         for (int i = 0; i < changes.length; i++) {
             changes[i].run();
             x.undo();
-            Check.same("undo() of change " + i, java.util.Arrays.equals(before, facts(x)) ? 1 : 0, 1);
+            Check.isTrue("undo() of change " + i + ": not all is as it was", before == Check.state(x));
         }
         float mean = x.meanLadder();
         x.climb(0, 2);
@@ -138,11 +118,11 @@ public final class HistoryTest {
         x.bar(3, 7);
         x.set(0, 7);
         x.bar(3, 0);
-        int[] before = facts(x);
+        long before = Check.state(x);
         Check.same("climber 1 falls", x.turn(), 1);
         Check.same("its falls", x.climber(1, 6), 1);
         x.undo();
-        Check.same("undo() of a fall", java.util.Arrays.equals(before, facts(x)) ? 1 : 0, 1);
+        Check.isTrue("undo() of a fall: not all is as it was", before == Check.state(x));
     }
 
     private static void addOne(BarredRungs x) {

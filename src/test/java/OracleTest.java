@@ -1,10 +1,12 @@
 /** Long runs of calls, drawn by a fixed sequence of numbers, against the Oracle. */
 public final class OracleTest {
-    private static final int RUNS = 400;
-    private static final int CALLS = 500;
+    private static final int RUNS = 700;
+    /** An object is good for 512 calls; a change with its text is 60 at most, a look round is 11. */
+    private static final int ENOUGH = 440;
 
     private static long seed;
     private static int run;
+    private static int calls;
     private static BarredRungs x;
     private static Oracle o;
 
@@ -19,6 +21,7 @@ public final class OracleTest {
     }
 
     private static void both(String call, Check.Call mine, Check.Call due) {
+        calls++;
         Check.sameText("run " + run + ": " + call, Check.outcome(mine), Check.outcome(due));
     }
 
@@ -183,6 +186,8 @@ public final class OracleTest {
         both("plain(" + v + ", " + w + ")", () -> x.plain(v, w), () -> o.plain(v, w));
         both("ifPut(" + v + ", " + w + ")", () -> x.ifPut(v, w), () -> o.ifPut(v, w));
         both("safest()", () -> x.safest(), () -> o.safest());
+        both("digest()", () -> x.digest(), () -> o.digest());
+        calls += 2;
         Check.sameDouble("linkShare()", x.linkShare(), o.linkShare());
         Check.sameDouble("meanLadder()", x.meanLadder(), o.meanLadder());
     }
@@ -190,18 +195,18 @@ public final class OracleTest {
     public static void main(String[] args) {
         for (run = 0; run < RUNS; run++) {
             seed = 1000003L * run + 17;
+            calls = 0;
             x = new BarredRungs();
             o = new Oracle();
             int spread = 2 + run % 4;
             int letterStep = 1 + run % 7;
             both("set(0, ..)", () -> x.set(0, letterStep), () -> o.set(0, letterStep));
             addWords(spread);
-            for (int i = 0; i < CALLS / 20; i++) {
-                for (int k = 0; k < 4; k++) {
+            while (calls < ENOUGH) {
+                for (int k = 0; k < 4 && calls < ENOUGH; k++) {
                     change(spread);
                 }
                 look();
-                both("digest()", () -> x.digest(), () -> o.digest());
             }
         }
         Check.end("OracleTest");

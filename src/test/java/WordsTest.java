@@ -26,20 +26,8 @@ public final class WordsTest {
         }
     }
 
-    /** Fills the list with 24 words: x0, x1 and so on, from "aaaa" to "aacH" in order. */
-    private static BarredRungs full() {
-        BarredRungs x = new BarredRungs();
-        for (int part = 0; part < 3; part++) {
-            for (int i = 0; i < 8; i++) {
-                Check.type(x, (i > 0 ? "," : "") + "aa" + (char) ('a' + part) + (char) ('a' + i));
-            }
-            Check.same("add() of eight words", x.add(), 8);
-        }
-        return x;
-    }
-
     private static void addIsFull() {
-        BarredRungs x = full();
+        BarredRungs x = Check.full();
         Check.same("24 words", x.count(0), 24);
         Check.type(x, "hhhh");
         Check.same("add() without room", x.add(), 0);
@@ -48,7 +36,7 @@ public final class WordsTest {
         Check.same("still 24", x.count(0), 24);
         Check.same("both are undoable", x.count(12), 5);
 
-        BarredRungs y = full();
+        BarredRungs y = Check.full();
         y.undo();
         Check.type(y, "bbba,bbbb,bbbc,bbbd,bbbe,bbbf,bbbg");
         Check.same("add() of seven", y.add(), 7);

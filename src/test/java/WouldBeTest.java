@@ -110,72 +110,42 @@ public final class WouldBeTest {
         Check.sameDouble("its climbs before are not of its ladder", x.meanLadder(), 5 / 4.0f);
     }
 
-    /** The digest, put together from the other answers. */
-    private static long hashOf(BarredRungs x, boolean kept, String buffer) {
-        long hash = 3709;
-        for (int what = 0; what <= 12; what++) {
-            hash = 31 * hash + x.count(what);
-        }
-        hash = 31 * (31 * hash + x.setting(0)) + x.setting(1);
-        for (int w = 0; w < x.count(0); w++) {
-            for (int what = 0; what <= 9; what++) {
-                hash = 31 * hash + x.word(w, what);
-            }
-        }
-        for (int c = 0; c < 3; c++) {
-            for (int what = 0; what <= 9; what++) {
-                hash = 31 * hash + x.climber(c, what);
-            }
-        }
-        for (int w = 0; w < x.count(0); w++) {
-            hash = 31 * hash + x.plain(0, w);
-        }
-        hash = 31 * hash + x.safest();
-        hash = 31 * hash + Double.doubleToLongBits(x.linkShare());
-        hash = 31 * hash + Float.floatToIntBits(x.meanLadder());
-        hash = 31 * hash + (kept ? 1 : 0);
-        hash = 31 * hash + buffer.length();
-        for (int i = 0; i < buffer.length(); i++) {
-            hash = 31 * hash + buffer.charAt(i);
-        }
-        return hash;
-    }
-
     private static void digestTells() {
         BarredRungs x = new BarredRungs();
-        Check.same("digest() of a new object", x.digest(), hashOf(x, false, ""));
+        Check.same("digest() of a new object", x.digest(), Check.hashOf(x, false, ""));
         Check.type(x, "bbcd,bbce,bbde,hhhh");
-        Check.same("with a buffer", x.digest(), hashOf(x, false, "bbcd,bbce,bbde,hhhh"));
+        Check.same("with a buffer", x.digest(), Check.hashOf(x, false, "bbcd,bbce,bbde,hhhh"));
         x.add();
-        Check.same("with words", x.digest(), hashOf(x, false, ""));
-        x.put(0, 0, 2);
-        x.put(1, 3, 2);
-        x.climb(0, 1);
-        Check.same("with climbers", x.digest(), hashOf(x, false, ""));
-        x.keep();
-        Check.same("with a snapshot", x.digest(), hashOf(x, true, ""));
-        x.turn();
-        x.climb(0, 2);
-        x.put(0, 0, 1);
-        x.climb(0, 1);
-        x.put(0, 0, 1);
-        x.climb(0, 1);
-        Check.same("with a mean of 4/3", x.digest(), hashOf(x, true, ""));
-        int saved = x.count(12);
-        Check.same("digest() changes nothing", x.digest(), hashOf(x, true, ""));
-        Check.same("and saves nothing", x.count(12), saved);
+        Check.same("with words", x.digest(), Check.hashOf(x, false, ""));
+
+        BarredRungs y = Check.with("bbcd,bbce,bbde,hhhh");
+        y.put(0, 0, 2);
+        y.put(1, 3, 2);
+        y.climb(0, 1);
+        Check.same("with climbers", y.digest(), Check.hashOf(y, false, ""));
+        y.keep();
+        Check.same("with a snapshot", y.digest(), Check.hashOf(y, true, ""));
+        y.turn();
+        y.climb(0, 2);
+        y.put(0, 0, 1);
+        y.climb(0, 1);
+        y.put(0, 0, 1);
+        y.climb(0, 1);
+        Check.same("with a mean of 4/3", y.digest(), Check.hashOf(y, true, ""));
+        int saved = y.count(12);
+        long hash = y.digest();
+        Check.same("digest() changes nothing", y.digest(), hash);
+        Check.same("and saves nothing", y.count(12), saved);
     }
 
     /** All shares that there can be up to nine words go through the bits of the digest. */
     private static void digestOfShares() {
         String[] words = {"aaaa", "aaab", "hhhh", "aabb", "hhhg", "cccc", "abbb", "hhgg", "aaac"};
-        BarredRungs x = new BarredRungs();
-        for (int i = 0; i < words.length; i++) {
-            Check.type(x, words[i]);
-            x.add();
+        for (int n = 1; n <= words.length; n++) {
             for (int near = 1; near <= 7; near++) {
+                BarredRungs x = Check.with(String.join(",", java.util.Arrays.copyOf(words, n)));
                 x.set(1, near);
-                Check.same("digest() with " + (i + 1) + " words", x.digest(), hashOf(x, false, ""));
+                Check.same("digest() with " + n + " words", x.digest(), Check.hashOf(x, false, ""));
             }
         }
     }
