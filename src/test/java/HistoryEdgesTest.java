@@ -121,6 +121,25 @@ public final class HistoryEdgesTest {
             Check.same("counted after undo(), " + i, again[i], before[i]);
         }
 
+        Check.sentence("all: the words, too, where others came in their places");
+        BarredRungs words = new BarredRungs();
+        words.turn();
+        add(words, "bbbb,bbbc,hhhh");
+        words.keep();
+        words.undo();
+        add(words, "cccc,dddd,dddc,dddb");
+        words.goBack();
+        Check.same("words of the snapshot", words.count(0), 3);
+        Check.same("its first word's first letter", words.word(0, 0), 1);
+        Check.same("its last word's last letter", words.word(2, 3), 7);
+        Check.same("its links", words.plain(0, 1), 1);
+        words.undo();
+        Check.same("words of before", words.count(0), 4);
+        Check.same("the first word's first letter", words.word(0, 0), 2);
+        Check.same("the third word's last letter", words.word(2, 3), 2);
+        Check.same("the links", words.plain(0, 1), -1);
+        Check.same("the other links", words.count(1), 3);
+
         Check.sentence("but the buffer");
         BarredRungs y = Check.with("bbbb,bbbc");
         y.turn();

@@ -237,6 +237,18 @@ public final class LookEdgesTest {
         saved.bar(0, 1);
         ways("about to fall wherever it is", saved, 0, -1, -1);
 
+        Check.sentence("climber, 7, 8 and 9: each tells it by itself, whatever was asked before");
+        int[] due = {1, 1, 0};
+        for (int what = 7; what <= 9; what++) {
+            BarredRungs alone = Check.with("bbbb,bbbf");
+            alone.put(0, 0, 1);
+            Check.same("climber(0, " + what + ") before", alone.climber(0, what), what == 9 ? 1 : 0);
+            alone.bar(3, 5);
+            Check.same("climber(0, " + what + ") when the end is barred", alone.climber(0, what), due[what - 7]);
+            alone.bar(0, 1);
+            Check.same("climber(0, " + what + ") when it will fall", alone.climber(0, what), -1);
+        }
+
         Check.sentence("climber, 9: the word to which it goes first");
         BarredRungs y = Check.with("bbbb,bbcc,bbbc,bccc");
         y.put(0, 0, 3);
@@ -298,6 +310,7 @@ public final class LookEdgesTest {
         counts("two that are not", Check.with("bbbb,bbcc"), 2, 0, 2, 2);
         counts("a ring", Check.with("bbbb,bbbc,bbcc,bbcb"), 4, 4, 1, 1);
         counts("two rows joined by the last word", Check.with("bbbb,bbbc,bbdd,bbdc,bbcc"), 5, 5, 1, 1);
+        counts("islands whose words come by turns", Check.with("hhhh,bbbb,hhhg,bbbc,dddd,hhgg"), 6, 3, 3, 3);
         BarredRungs full = Check.full();
         counts("24 words", full, 24, 3 * 28 + 8 * 3, 1, 1);
         full.set(1, 1);
