@@ -299,6 +299,7 @@ public final class LookEdgesTest {
     private static void counts(String what, BarredRungs x, int... due) {
         for (int i = 0; i < due.length; i++) {
             Check.same(what + ": count(" + i + ")", x.count(i), due[i]);
+            Check.same(what + ": count(" + i + ") again", x.count(i), due[i]);
         }
     }
 
@@ -309,6 +310,8 @@ public final class LookEdgesTest {
         counts("two that are linked", Check.with("bbbb,bbbc"), 2, 1, 1, 1);
         counts("two that are not", Check.with("bbbb,bbcc"), 2, 0, 2, 2);
         counts("a ring", Check.with("bbbb,bbbc,bbcc,bbcb"), 4, 4, 1, 1);
+        counts("a ring, its words crosswise", Check.with("bbbb,bbcc,bbbc,bbcb"), 4, 4, 1, 1);
+        counts("a ring, its words crosswise, behind others", Check.with("hhhh,bbbb,bbcc,bbbc,bbcb"), 5, 4, 2, 2);
         counts("two rows joined by the last word", Check.with("bbbb,bbbc,bbdd,bbdc,bbcc"), 5, 5, 1, 1);
         counts("islands whose words come by turns", Check.with("hhhh,bbbb,hhhg,bbbc,dddd,hhgg"), 6, 3, 3, 3);
         BarredRungs full = Check.full();
